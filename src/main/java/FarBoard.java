@@ -245,12 +245,14 @@ public final class FarBoard {
             throw new NoSuchElementException();
         }
         needClosedSize(n);
+        seeker.makeKnown(n);
         return seeker.answer(n, what);
     }
 
     public int first(int n, int side, int tile) throws NoSuchElementException, IllegalArgumentException {
         needClosedSize(n);
         needSide(side);
+        seeker.makeKnown(n);
         if (tile < 0 || tile >= n || !seeker.hasFirst(n)) {
             throw new NoSuchElementException();
         }
@@ -591,7 +593,20 @@ public final class FarBoard {
                 corners[i] = i < newSides ? newCorners[i] : 0;
             }
             sortClasses();
-            layRings();
+            beginAtHome();
+            int from = 0;
+            boolean hasRoom = true;
+            for (int ring = 1; ring < ringSize.length && hasRoom; ring++) {
+                int to = tiles;
+                hasRoom = layRing(from, to);
+                if (hasRoom) {
+                    ringSize[ring] = tiles - to;
+                    rim = ring;
+                    from = to;
+                } else {
+                    takeBackRing(from, to);
+                }
+            }
             countWays();
         }
 
@@ -727,22 +742,11 @@ public final class FarBoard {
             return (number & 1) == 1;
         }
 
-        private void layRings() {
+        private void beginAtHome() {
             tiles = 0;
             rim = 0;
             addTile(0, 0);
             ringSize[0] = 1;
-            int from = 0;
-            for (int ring = 1; ring < ringSize.length; ring++) {
-                int to = tiles;
-                if (!layRing(from, to)) {
-                    takeBackRing(from, to);
-                    return;
-                }
-                ringSize[ring] = tiles - to;
-                rim = ring;
-                from = to;
-            }
         }
 
         /** Numbers the ring beyond tiles from .. to less 1; false if there is no room for it. */
@@ -1157,7 +1161,7 @@ public final class FarBoard {
         }
 
         int lyingAcross(int side, int tile) {
-            return rows.numberAt(rowOf(side), tile);
+            return rows.numberAt(valueAt(chosen, side), tile);
         }
 
         /** Whether the newest side goes round its corners with the sides ahead. */
@@ -1334,13 +1338,11 @@ public final class FarBoard {
         }
 
         int answer(int size, int what) {
-            makeKnown(size);
             int at = size * CLOSED_ANSWERS + what;
             return at >= 0 && at < answers.length ? answers[at] : NONE;
         }
 
         boolean hasFirst(int size) {
-            makeKnown(size);
             return size >= 0 && size < firstKnown.length && firstKnown[size];
         }
 
@@ -1353,7 +1355,8 @@ public final class FarBoard {
             return (size * MOST_SIDES + side) * MOST_CLOSED + tile;
         }
 
-        private void makeKnown(int size) {
+        /** Seeks the boards of so many tiles, unless that was done since the board was laid. */
+        void makeKnown(int size) {
             if (size < 1 || size >= known.length || size >= firstKnown.length || known[size]) {
                 return;
             }
@@ -1437,6 +1440,7 @@ public final class FarBoard {
             if (draft.isSmooth()) {
                 if (smooth == 0) {
                     keepFirst(size);
+                    setAnswer(size, HANDLES, draft.handles());
                 }
                 smooth++;
             }
@@ -1446,7 +1450,6 @@ public final class FarBoard {
             if (size >= 0 && size < firstKnown.length) {
                 firstKnown[size] = true;
             }
-            setAnswer(size, HANDLES, draft.handles());
             for (int side = 0; side < plane.sides; side++) {
                 for (int tile = 0; tile < size; tile++) {
                     int at = firstPlace(size, side, tile);
