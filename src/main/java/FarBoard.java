@@ -607,7 +607,6 @@ public final class FarBoard {
                     takeBackRing(from, to);
                 }
             }
-            countWays();
         }
 
         boolean hasTile(int tile) {
@@ -629,7 +628,8 @@ public final class FarBoard {
 
         /** The tile across a side, NONE if it has no number. */
         int beyond(int tile, int side) {
-            if (!hasTile(tile) || !hasSide(side)) {
+            // Asked most of all: what hasTile and hasSide ask stands here itself.
+            if (tile < 0 || tile >= tiles || side < 0 || side >= sides) {
                 return NONE;
             }
             int at = tile * MOST_SIDES + side;
@@ -746,6 +746,7 @@ public final class FarBoard {
             tiles = 0;
             rim = 0;
             addTile(0, 0);
+            ways[0] = 1;
             ringSize[0] = 1;
         }
 
@@ -784,20 +785,25 @@ public final class FarBoard {
 
         private void addTile(int ring, int side) {
             int tile = tiles;
-            if (tile < 0 || tile >= ringOf.length || tile >= lastSide.length) {
+            if (tile < 0 || tile >= ringOf.length || tile >= lastSide.length || tile >= ways.length) {
                 return;
             }
             ringOf[tile] = ring;
             lastSide[tile] = side;
+            ways[tile] = 0;
             tiles++;
             for (int i = 0; i < MOST_SIDES; i++) {
                 setAcross(tile, i, NONE);
             }
         }
 
-        private void join(int tile, int side, int other) {
-            setAcross(tile, side, other);
-            setAcross(other, side, tile);
+        /** Joins a tile with a new one of the next ring: all ways to the tile lead to the new one. */
+        private void join(int tile, int side, int added) {
+            setAcross(tile, side, added);
+            setAcross(added, side, tile);
+            if (added >= 0 && added < ways.length) {
+                ways[added] += waysTo(tile);
+            }
         }
 
         private void setAcross(int tile, int side, int other) {
@@ -827,20 +833,6 @@ public final class FarBoard {
             }
             if (corner != 0 && at != NONE) {
                 join(at, other, newest);
-            }
-        }
-
-        private void countWays() {
-            ways[0] = 1;
-            for (int tile = 1; tile < tiles && tile < ways.length; tile++) {
-                long sum = 0;
-                for (int side = 0; side < sides; side++) {
-                    int to = beyond(tile, side);
-                    if (isLesser(to, tile)) {
-                        sum += waysTo(to);
-                    }
-                }
-                ways[tile] = sum;
             }
         }
     }
@@ -1017,12 +1009,14 @@ public final class FarBoard {
          *  by k times and no fewer. */
         private final int[] laps;
         private final int[] partner;
+        private final boolean[] alone;
         private int size;
         int many;
 
         Rows() {
             numbers = new int[MOST * MOST_CLOSED];
             laps = new int[MOST * MOST];
+            alone = new boolean[MOST];
             partner = new int[MOST_CLOSED];
         }
 
@@ -1052,13 +1046,9 @@ public final class FarBoard {
             return row >= 0 && other >= 0 && other < MOST && at < laps.length ? laps[at] : 0;
         }
 
+        /** Whether a row has a tile lie across from itself. */
         boolean leavesAlone(int row) {
-            for (int tile = 0; tile < size; tile++) {
-                if (numberAt(row, tile) == tile) {
-                    return true;
-                }
-            }
-            return false;
+            return row >= 0 && row < alone.length && alone[row];
         }
 
         /** The first number without a partner gets each in turn, itself first: so rows come in order. */
@@ -1093,11 +1083,13 @@ public final class FarBoard {
 
         private void writeRow() {
             int at = many * MOST_CLOSED;
-            if (at < 0 || at + MOST_CLOSED > numbers.length) {
+            if (at < 0 || at + MOST_CLOSED > numbers.length || many >= alone.length) {
                 return;
             }
+            alone[many] = false;
             for (int tile = 0; tile < partner.length && tile < MOST_CLOSED; tile++) {
                 numbers[at + tile] = partner[tile];
+                alone[many] |= partner[tile] == tile;
             }
             many++;
         }
@@ -1127,14 +1119,16 @@ public final class FarBoard {
 
     /** A closed board while it is put together, a row of numbers for each side. */
     private static final class Draft {
-        /** For each corner: which numbers of times, of 1 to 6, divide it, as bits; all, if it is 0. */
-        private static final int[] DIVIDING = {127, 2, 6, 10, 22, 34, 78, 2, 22, 10};
+        /** For each corner: which numbers of times, of 1 to 6, don't divide it, as bits; none, if it is 0. */
+        private static final int[] NOT_DIVIDING = {0, 124, 120, 116, 104, 92, 48, 124, 104, 116};
+        private static final int ALL_TIMES = 126;
 
         private final Plane plane;
         private final Rows rows;
         private final int[] chosen;
-        /** Tiles as they are come to from tile 0, and from where and by which side. */
-        private final int[] met;
+        /** For each number of sides, for each tile: the tiles that hang together with it, as bits. */
+        private final int[] groups;
+        /** From where and by which side a tile is come to first. */
         private final int[] metFrom;
         private final int[] metBy;
         private final int[] noted;
@@ -1144,7 +1138,7 @@ public final class FarBoard {
             this.plane = plane;
             this.rows = rows;
             chosen = new int[MOST_SIDES];
-            met = new int[MOST_CLOSED];
+            groups = new int[(MOST_SIDES + 1) * MOST_CLOSED];
             metFrom = new int[MOST_CLOSED];
             metBy = new int[MOST_CLOSED];
             noted = new int[MOST_CLOSED];
@@ -1152,6 +1146,9 @@ public final class FarBoard {
 
         void begin(int newSize) {
             size = newSize;
+            for (int tile = 0; tile < size; tile++) {
+                setGroup(0, tile, 1 << tile);
+            }
         }
 
         void choose(int side, int row) {
@@ -1160,52 +1157,76 @@ public final class FarBoard {
             }
         }
 
+        int rowOf(int side) {
+            return valueAt(chosen, side);
+        }
+
         int lyingAcross(int side, int tile) {
             return rows.numberAt(valueAt(chosen, side), tile);
         }
 
-        /** Whether the newest side goes round its corners with the sides ahead. */
-        boolean goesRound(int side) {
-            if (side > 0 && !fits(side - 1, side)) {
-                return false;
+        /** The laps that two rows must not have to go round a corner. */
+        static int forbiddenAt(int corner) {
+            return corner >= 0 && corner < NOT_DIVIDING.length ? NOT_DIVIDING[corner] : ALL_TIMES;
+        }
+
+        /** Whether the last side goes round its corner with side 0. */
+        boolean closesUp() {
+            int last = plane.sides - 1;
+            return (rows.lapsOf(rowOf(last), rowOf(0)) & forbiddenAt(plane.cornerBehind(last))) == 0;
+        }
+
+        /** Tells which tiles hang together by the sides up to this one. */
+        void link(int side) {
+            int whole = (1 << size) - 1;
+            if (groupOf(side, 0) == whole) {
+                setGroup(side + 1, 0, whole);
+                return;
             }
-            return side < plane.sides - 1 || fits(side, 0);
+            for (int tile = 0; tile < size; tile++) {
+                setGroup(side + 1, tile, groupOf(side, tile));
+            }
+            for (int tile = 0; tile < size; tile++) {
+                int joined = groupOf(side + 1, tile) | groupOf(side + 1, lyingAcross(side, tile));
+                for (int other = 0; other < size; other++) {
+                    if ((joined >> other & 1) == 1) {
+                        setGroup(side + 1, other, joined);
+                    }
+                }
+            }
         }
 
-        private boolean fits(int side, int next) {
-            return allows(plane.cornerBehind(side), rows.lapsOf(rowOf(side), rowOf(next)));
-        }
-
-        static boolean allows(int corner, int laps) {
-            return corner >= 0 && corner < DIVIDING.length && (laps & ~DIVIDING[corner]) == 0;
+        boolean hangsTogether() {
+            return groupOf(plane.sides, 0) == (1 << size) - 1;
         }
 
         boolean isSmooth() {
             for (int side = 0; side < plane.sides; side++) {
-                int corner = plane.cornerBehind(side);
-                int next = rowOf(modulo(side + 1, plane.sides));
                 if (rows.leavesAlone(rowOf(side))) {
                     return false;
                 }
-                if (corner != 0 && rows.lapsOf(rowOf(side), next) != 1 << corner) {
+            }
+            for (int side = 0; side < plane.sides; side++) {
+                int corner = plane.cornerBehind(side);
+                int next = modulo(side + 1, plane.sides);
+                if (corner != 0 && rows.lapsOf(rowOf(side), rowOf(next)) != 1 << corner) {
                     return false;
                 }
             }
             return true;
         }
 
-        /** Goes from tile 0 as far as can be: whether all tiles are come to. */
-        boolean meetsAll() {
-            int seen = 1;
+        /** Whether tiles are come to from tile 0, side by side, in the order of their numbers. */
+        boolean isNumberedAsMet() {
             int many = 1;
-            met[0] = 0;
-            for (int i = 0; i < many && many < size; i++) {
+            for (int from = 0; from < many && many < size; from++) {
                 for (int side = 0; side < plane.sides; side++) {
-                    int to = lyingAcross(side, valueAt(met, i));
-                    if ((seen >> to & 1) == 0 && many < met.length) {
-                        seen |= 1 << to;
-                        met[many] = to;
-                        metFrom[many] = valueAt(met, i);
+                    int to = lyingAcross(side, from);
+                    if (to > many) {
+                        return false;
+                    }
+                    if (to == many && many < metFrom.length && many < metBy.length) {
+                        metFrom[many] = from;
                         metBy[many] = side;
                         many++;
                     }
@@ -1214,23 +1235,15 @@ public final class FarBoard {
             return many == size;
         }
 
-        boolean isNumberedAsMet() {
-            for (int i = 0; i < size; i++) {
-                if (valueAt(met, i) != i) {
-                    return false;
-                }
-            }
-            return true;
-        }
-
-        /** By how many changes of its numbers the board stays as it is: where tile 0 goes tells all. */
+        /** By how many changes of its numbers a board that is numbered as it is met stays as it is:
+         *  where tile 0 goes tells where all go. */
         int ownLikenesses() {
             int many = 0;
-            for (int tile = 0; tile < size; tile++) {
-                note(0, tile);
-                for (int i = 1; i < size; i++) {
-                    int from = valueAt(noted, valueAt(metFrom, i));
-                    note(valueAt(met, i), lyingAcross(valueAt(metBy, i), from));
+            for (int image = 0; image < size; image++) {
+                note(0, image);
+                for (int tile = 1; tile < size; tile++) {
+                    int from = valueAt(noted, valueAt(metFrom, tile));
+                    note(tile, lyingAcross(valueAt(metBy, tile), from));
                 }
                 if (isLikeAsNoted()) {
                     many++;
@@ -1253,7 +1266,8 @@ public final class FarBoard {
 
         /** Handles of a smooth board, NONE if it has none. */
         int handles() {
-            if (!hasTwoSorts()) {
+            noteSorts();
+            if (!sortsLieApart()) {
                 return NONE;
             }
             int twice = 2 - size + size * plane.sides / 2;
@@ -1267,11 +1281,24 @@ public final class FarBoard {
             return twice / 2;
         }
 
-        private boolean hasTwoSorts() {
-            note(0, 0);
-            for (int i = 1; i < size; i++) {
-                note(valueAt(met, i), 1 - valueAt(noted, valueAt(metFrom, i)));
+        /** Gives tile 0 a sort, and the other one to all that lie across from it, and so on. */
+        private void noteSorts() {
+            for (int tile = 0; tile < size; tile++) {
+                note(tile, tile == 0 ? 0 : NONE);
             }
+            for (int times = 0; times < size; times++) {
+                for (int side = 0; side < plane.sides; side++) {
+                    for (int tile = 0; tile < size; tile++) {
+                        int other = lyingAcross(side, tile);
+                        if (valueAt(noted, tile) != NONE && valueAt(noted, other) == NONE) {
+                            note(other, 1 - valueAt(noted, tile));
+                        }
+                    }
+                }
+            }
+        }
+
+        private boolean sortsLieApart() {
             for (int side = 0; side < plane.sides; side++) {
                 for (int tile = 0; tile < size; tile++) {
                     if (valueAt(noted, lyingAcross(side, tile)) == valueAt(noted, tile)) {
@@ -1282,14 +1309,21 @@ public final class FarBoard {
             return true;
         }
 
+        private int groupOf(int sides, int tile) {
+            return valueAt(groups, sides * MOST_CLOSED + tile);
+        }
+
+        private void setGroup(int sides, int tile, int group) {
+            int at = sides * MOST_CLOSED + tile;
+            if (at >= 0 && at < groups.length) {
+                groups[at] = group;
+            }
+        }
+
         private void note(int tile, int value) {
             if (tile >= 0 && tile < noted.length) {
                 noted[tile] = value;
             }
-        }
-
-        private int rowOf(int side) {
-            return valueAt(chosen, side);
         }
 
         private static int valueAt(int[] values, int i) {
@@ -1401,11 +1435,12 @@ public final class FarBoard {
 
         /** One more side is put to all drafts that stand: how many stand then. */
         private long draftsWith(int corner) {
+            int forbidden = Draft.forbiddenAt(corner);
             long sum = 0;
             for (int row = 0; row < rows.many && row < nextEndingIn.length; row++) {
                 long ending = 0;
                 for (int ahead = 0; ahead < rows.many && ahead < endingIn.length; ahead++) {
-                    if (Draft.allows(corner, rows.lapsOf(ahead, row))) {
+                    if ((rows.lapsOf(ahead, row) & forbidden) == 0) {
                         ending += endingIn[ahead];
                     }
                 }
@@ -1421,16 +1456,21 @@ public final class FarBoard {
                 weigh(size);
                 return;
             }
+            int ahead = draft.rowOf(side - 1);
+            int forbidden = side == 0 ? 0 : Draft.forbiddenAt(plane.cornerBehind(side - 1));
             for (int row = 0; row < rows.many; row++) {
-                draft.choose(side, row);
-                if (draft.goesRound(side)) {
-                    seek(side + 1, size);
+                if ((rows.lapsOf(ahead, row) & forbidden) == 0) {
+                    draft.choose(side, row);
+                    if (side < plane.sides - 1 || draft.closesUp()) {
+                        draft.link(side);
+                        seek(side + 1, size);
+                    }
                 }
             }
         }
 
         private void weigh(int size) {
-            if (!draft.meetsAll()) {
+            if (!draft.hangsTogether()) {
                 return;
             }
             found++;

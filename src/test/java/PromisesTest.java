@@ -402,6 +402,11 @@ public final class PromisesTest {
         FarBoard y = of(FREE);
         DUE.is(1, "smooth of two tiles", () -> y.closed(2, 1));
         DUE.is(-1, "corners of 0: no handles", () -> y.closed(2, 3));
+        // Of all boards those whose tries are nearest to 300,000, below it and above it.
+        FarBoard v = of("corners 9 7 0 7 0 8 2 2;");
+        DUE.is(299_990, "not yet spent", () -> v.closed(4, 4));
+        FarBoard w = of("corners 5 6 5 4 2 4 2 2;");
+        DUE.is(-2, "just spent", () -> w.closed(4, 4));
         FarBoard z = of("corners 2 2 2 2 2;");
         DUE.is(30, "smooth ones", () -> z.closed(4, 1));
         DUE.is(-1, "not of two sorts: no handles", () -> z.closed(4, 3));

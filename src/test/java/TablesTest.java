@@ -21,6 +21,8 @@ public final class TablesTest {
         "corners 3 3 3 3 3 3 3 3;",
         "corners 2 2 2 2 2 2 2 2;",
         "corners 0 0 0 0 0 0 0 0;",
+        "corners 9 7 0 7 0 8 2 2;",
+        "corners 5 6 5 4 2 4 2 2;",
         "corners 3 4 5 6 7 8 9 0;ant 1 2 3 4 5 6 7 0;",
     };
 
