@@ -4,6 +4,7 @@ import java.util.concurrent.Callable;
 final class Due {
     private int checks;
     private int wrong;
+    private String about = "";
 
     /** What a call answers, or throws.X if it throws an X. */
     static String answer(Callable<?> call) {
@@ -14,11 +15,16 @@ final class Due {
         }
     }
 
+    /** What the checks from here on are of: it is printed ahead of each that fails. */
+    void about(String newAbout) {
+        about = newAbout + ": ";
+    }
+
     void same(String what, Object got, Object want) {
         checks++;
         if (!String.valueOf(got).equals(String.valueOf(want))) {
             wrong++;
-            System.out.println(what + " answered " + got + ", due is " + want);
+            System.out.println(about + what + " answered " + got + ", due is " + want);
         }
     }
 
@@ -32,6 +38,10 @@ final class Due {
 
     void badArgument(String what, Callable<?> call) {
         same(what, answer(call), "throws.IllegalArgumentException");
+    }
+
+    int checks() {
+        return checks;
     }
 
     boolean hasWrong() {
